@@ -293,7 +293,7 @@ public final class BestBeast {
         trial.copyFrom(manor);
         int can = 0;
         for (int of = 0; of < trial.holders; of++) {
-            if (!trial.alive[of]) {
+            if (!trial.isAlive(of)) {
                 continue;
             }
             trial.putTo(beast, of);
@@ -363,7 +363,7 @@ public final class BestBeast {
             for (int what = 0; what <= LAST_ABOUT; what++) {
                 h = 31 * h + about(n, what);
             }
-            if (manor.alive[n]) {
+            if (manor.isAlive(n)) {
                 h = 31 * h + safe(n, 0);
                 h = 31 * h + safe(n, 1);
                 h = 31 * h + giving(n, DIGEST_YEARS);
@@ -529,7 +529,7 @@ public final class BestBeast {
         }
 
         int lordMay(int ofKind) {
-            if (isSuch(ofKind, FREE)) {
+            if (ofKind == FREE || ofKind == KNIGHT) {
                 return 0;
             }
             return ofKind == WIDOW ? Math.max(0, lord - 1) : lord;
@@ -600,10 +600,13 @@ public final class BestBeast {
         }
 
         int worthTaken(int holder, int held) {
-            int taken = takenFrom(holder, held);
+            return worthOf(takenFrom(holder, held));
+        }
+
+        int worthOf(int bits) {
             int sum = 0;
             for (int b = 0; b < beasts; b++) {
-                if ((taken >> b & 1) == 1 && hasBeast(b)) {
+                if ((bits >> b & 1) == 1 && hasBeast(b)) {
                     sum += worth[b];
                 }
             }
@@ -614,9 +617,8 @@ public final class BestBeast {
             if (!isAlive(holder)) {
                 return 0;
             }
-            int held = heldBits(holder);
-            int taken = takenFrom(holder, held);
-            int sum = worthTaken(holder, held);
+            int taken = takenFrom(holder, heldBits(holder));
+            int sum = worthOf(taken);
             int next = isAlive(heirOf[holder]) ? heirOf[holder] : NONE;
             for (int b = 0; b < beasts; b++) {
                 if ((taken >> b & 1) == 1) {
@@ -635,7 +637,7 @@ public final class BestBeast {
             int own = ownBits(holder);
             int held = heldBits(holder);
             int fewest = NONE;
-            for (int bits = 0; bits < 1 << MOST_BEASTS; bits++) {
+            for (int bits = 0; bits <= own; bits++) {
                 if ((bits & ~own) != 0 || takenFrom(holder, held & ~bits) != 0) {
                     continue;
                 }
@@ -652,7 +654,7 @@ public final class BestBeast {
             int own = ownBits(holder);
             int best = 0;
             int bestLost = lostOnMean(holder, years, 0);
-            for (int bits = 1; bits < 1 << MOST_BEASTS; bits++) {
+            for (int bits = 1; bits <= own; bits++) {
                 if ((bits & ~own) != 0) {
                     continue;
                 }
