@@ -253,7 +253,7 @@ public final class BestBeast {
     private static int powerOfTen(int power) {
         int product = 1;
         for (int i = 0; i < power; i++) {
-            product *= 10;
+            product *= TENTHS;
         }
         return product;
     }
