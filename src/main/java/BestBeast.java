@@ -96,9 +96,6 @@ public final class BestBeast {
         if (!within(kind, ANY_HOLDER, KNIGHT) || !within(death, 0, MOST_DEATH)) {
             return OUTSIDE;
         }
-        if (manor.holders >= MOST_HOLDERS) {
-            return FULL;
-        }
         return manor.addHolder(kind, death);
     }
 
@@ -154,9 +151,6 @@ public final class BestBeast {
         }
         if (!manor.alive[holder]) {
             return STATE;
-        }
-        if (manor.beasts >= MOST_BEASTS) {
-            return FULL;
         }
         return manor.addBeast(holder, worth);
     }
@@ -480,6 +474,7 @@ public final class BestBeast {
             return many;
         }
 
+        /** The number of a new one, or FULL. */
         int addHolder(int ofKind, int withDeath) {
             if (holders < 0 || holders >= MOST_HOLDERS) {
                 return FULL;
@@ -493,6 +488,7 @@ public final class BestBeast {
             return number;
         }
 
+        /** The number of a new one, or FULL. */
         int addBeast(int of, int ofWorth) {
             if (beasts < 0 || beasts >= MOST_BEASTS) {
                 return FULL;

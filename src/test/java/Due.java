@@ -6,6 +6,20 @@ final class Due {
 
     Due(String test) {
         this.test = test;
+        Thread watch = new Thread(this::giveUp);
+        watch.setDaemon(true);
+        watch.start();
+    }
+
+    /** No call may fail to end: a test that goes on for five minutes is wrong. */
+    private void giveUp() {
+        try {
+            Thread.sleep(300_000);
+        } catch (InterruptedException e) {
+            return;
+        }
+        System.out.println(test + ": a call does not end");
+        Runtime.getRuntime().halt(1);
     }
 
     void is(String call, long got, long want) {

@@ -10,14 +10,57 @@ public final class RandomRunsTest {
     private static final Due due = new Due("RandomRunsTest");
     private static final int RUNS = 400;
     private static final int CALLS = 60;
-    private static final String[] NAMES = {
-        "letter", "blank", "fault", "law", "holder", "about", "as", "heir", "beast", "beastOf", "give", "die", "year",
-        "safe", "giving", "mean", "roll", "whose", "manors", "image", "restore", "count", "digest",
-    };
-
     private final Random random;
-    private final List<int[]> calls = new ArrayList<>();
+    private final List<Call> calls = new ArrayList<>();
     private final BestBeast x = new BestBeast();
+    private Seen seen;
+
+    private static final class Call {
+        final String name;
+        final int[] told;
+
+        Call(String name, int[] told) {
+            this.name = name;
+            this.told = told;
+        }
+    }
+
+    /** What an object tells of holders, beasts and all, asked once: it is used for 512 calls at most. */
+    private static final class Seen {
+        private final int[][] abouts;
+        private final int[][] beasts;
+        private final int[] counts = new int[12];
+
+        Seen(BestBeast of) {
+            for (int what = 0; what < counts.length; what++) {
+                counts[what] = of.count(what);
+            }
+            abouts = new int[counts[4]][9];
+            for (int h = 0; h < abouts.length; h++) {
+                for (int what = 0; what < 9; what++) {
+                    abouts[h][what] = of.about(h, what);
+                }
+            }
+            beasts = new int[counts[6]][5];
+            for (int b = 0; b < beasts.length; b++) {
+                for (int what = 0; what < 5; what++) {
+                    beasts[b][what] = of.beastOf(b, what);
+                }
+            }
+        }
+
+        int count(int what) {
+            return counts[what];
+        }
+
+        int about(int holder, int what) {
+            return abouts[holder][what];
+        }
+
+        int beastOf(int beast, int what) {
+            return beasts[beast][what];
+        }
+    }
 
     private RandomRunsTest(long seed) {
         random = new Random(seed);
@@ -36,60 +79,16 @@ public final class RandomRunsTest {
         due.end();
     }
 
-    private static long made(BestBeast on, int[] c) {
-        switch (NAMES[c[0]]) {
-            case "letter": return on.letter(c[1]);
-            case "blank": return on.blank();
-            case "fault": return on.fault();
-            case "law": return on.law();
-            case "holder": return on.holder(c[1], c[2]);
-            case "about": return on.about(c[1], c[2]);
-            case "as": return on.as(c[1], c[2]);
-            case "heir": return on.heir(c[1], c[2]);
-            case "beast": return on.beast(c[1], c[2]);
-            case "beastOf": return on.beastOf(c[1], c[2]);
-            case "give": return on.give(c[1], c[2]);
-            case "die": return on.die(c[1]);
-            case "year": return on.year();
-            case "safe": return on.safe(c[1], c[2]);
-            case "giving": return on.giving(c[1], c[2]);
-            case "mean": return on.mean(c[1], c[2], c[3]);
-            case "roll": return on.roll(c[1], c[2]);
-            case "whose": return on.whose(c[1], c[2]);
-            case "manors": return on.manors(c[1], c[2], c[3]);
-            case "image": return on.image();
-            case "restore": return on.restore();
-            case "count": return on.count(c[1]);
-            default: return on.digest();
-        }
-    }
-
-    private static int op(String name) {
-        for (int i = 0; i < NAMES.length; i++) {
-            if (NAMES[i].equals(name)) {
-                return i;
-            }
-        }
-        throw new IllegalArgumentException(name);
-    }
-
-    private static String told(int[] c) {
-        return NAMES[c[0]] + "(" + c[1] + ", " + c[2] + ", " + c[3] + ")";
-    }
-
-    private long call(String name, int... told) {
-        int[] c = new int[4];
-        c[0] = op(name);
-        System.arraycopy(told, 0, c, 1, told.length);
-        calls.add(c);
-        return made(x, c);
+    private void call(String name, int... told) {
+        calls.add(new Call(name, told));
+        Calls.made(x, name, told);
     }
 
     /** A new object on which all calls of this run were made. */
     private BestBeast again() {
         BestBeast other = new BestBeast();
-        for (int[] c : calls) {
-            made(other, c);
+        for (Call c : calls) {
+            Calls.made(other, c.name, c.told);
         }
         return other;
     }
@@ -128,10 +127,11 @@ public final class RandomRunsTest {
 
     /** All that the terms tell of what would be, on the object as it is now. */
     private void hold() {
-        for (int h = 0; h < x.count(4); h++) {
+        seen = new Seen(x);
+        for (int h = 0; h < seen.count(4); h++) {
             holdBits(h);
-            if (x.about(h, 2) == 0) {
-                due.is("loss of a dead one", x.about(h, 8), 0);
+            if (seen.about(h, 2) == 0) {
+                due.is("loss of a dead one", seen.about(h, 8), 0);
                 continue;
             }
             holdLoss(h);
@@ -139,11 +139,11 @@ public final class RandomRunsTest {
             for (int years = 1; years <= 4; years++) {
                 holdGiving(h, years);
             }
-            for (int b = 0; b < x.count(6); b++) {
+            for (int b = 0; b < seen.count(6); b++) {
                 holdWhose(b, h);
             }
         }
-        if (x.count(4) > 0) {
+        if (seen.count(4) > 0) {
             holdManors(1 + random.nextInt(12), random.nextInt(Integer.MAX_VALUE));
         }
     }
@@ -151,20 +151,20 @@ public final class RandomRunsTest {
     private void holdBits(int h) {
         int own = 0;
         int held = 0;
-        for (int b = 0; b < x.count(6); b++) {
-            boolean his = x.beastOf(b, 1) == h;
-            boolean stillVoid = x.beastOf(b, 2) == h && x.count(8) - x.beastOf(b, 3) < x.count(2);
+        for (int b = 0; b < seen.count(6); b++) {
+            boolean his = seen.beastOf(b, 1) == h;
+            boolean stillVoid = seen.beastOf(b, 2) == h && seen.count(8) - seen.beastOf(b, 3) < seen.count(2);
             own |= his ? 1 << b : 0;
             held |= his || stillVoid ? 1 << b : 0;
         }
-        due.is("about(h, 4)", x.about(h, 4), own);
-        due.is("about(h, 5)", x.about(h, 5), held);
+        due.is("about(h, 4)", seen.about(h, 4), own);
+        due.is("about(h, 5)", seen.about(h, 5), held);
     }
 
     private void holdLoss(int h) {
         BestBeast other = again();
         int before = other.count(9);
-        int loss = x.about(h, 8);
+        int loss = seen.about(h, 8);
         due.is("die() takes LOSS", other.die(h), loss);
         due.is("count(9) rises by LOSS", other.count(9) - before, loss);
         due.is("what was his is his heir's, or gone", other.about(h, 4), 0);
@@ -176,21 +176,21 @@ public final class RandomRunsTest {
      * gifts that were made of them but for those told to be given by nobody. No beast may be gone.
      */
     private BestBeast rebuilt(int[] owners, boolean[] ungiven) {
-        BestBeast y = Make.underLaw("" + x.count(0) + x.count(1) + x.count(2) + ";" + x.count(3));
-        for (int h = 0; h < x.count(4); h++) {
-            y.holder(x.about(h, 0), x.about(h, 1));
+        BestBeast y = Make.underLaw("" + seen.count(0) + seen.count(1) + seen.count(2) + ";" + seen.count(3));
+        for (int h = 0; h < seen.count(4); h++) {
+            y.holder(seen.about(h, 0), seen.about(h, 1));
         }
         for (int b = 0; b < owners.length; b++) {
-            boolean given = x.beastOf(b, 2) != Make.NONE && !ungiven[b];
-            y.beast(given ? x.beastOf(b, 2) : owners[b], x.beastOf(b, 0));
+            boolean given = seen.beastOf(b, 2) != Make.NONE && !ungiven[b];
+            y.beast(given ? seen.beastOf(b, 2) : owners[b], seen.beastOf(b, 0));
         }
-        for (int year = 0; year <= x.count(8); year++) {
+        for (int year = 0; year <= seen.count(8); year++) {
             for (int b = 0; b < owners.length; b++) {
-                if (x.beastOf(b, 3) == year && !ungiven[b]) {
+                if (seen.beastOf(b, 3) == year && !ungiven[b]) {
                     y.give(b, owners[b]);
                 }
             }
-            if (year < x.count(8)) {
+            if (year < seen.count(8)) {
                 y.year();
             }
         }
@@ -198,9 +198,9 @@ public final class RandomRunsTest {
     }
 
     private int[] owners() {
-        int[] owners = new int[x.count(6)];
+        int[] owners = new int[seen.count(6)];
         for (int b = 0; b < owners.length; b++) {
-            owners[b] = x.beastOf(b, 1);
+            owners[b] = seen.beastOf(b, 1);
         }
         return owners;
     }
@@ -216,11 +216,11 @@ public final class RandomRunsTest {
 
     private void holdSafe(int h) {
         int[] owners = owners();
-        if (x.count(4) < 2 || anyGone(owners)) {
+        if (seen.count(4) < 2 || anyGone(owners)) {
             return;
         }
         int other = h == 0 ? 1 : 0;
-        int own = x.about(h, 4);
+        int own = seen.about(h, 4);
         int few = Make.NONE;
         int which = Make.NONE;
         for (int bits = 0; bits < 64; bits++) {
@@ -260,7 +260,7 @@ public final class RandomRunsTest {
     }
 
     private void holdGiving(int h, int years) {
-        int own = x.about(h, 4);
+        int own = seen.about(h, 4);
         double least = Double.MAX_VALUE;
         int best = 0;
         for (int bits = 0; bits < 64; bits++) {
@@ -274,7 +274,7 @@ public final class RandomRunsTest {
             double mean = 0;
             double alive = 1;
             for (int y = 0; y < years; y++) {
-                double dies = x.about(h, 1) / 10.0;
+                double dies = seen.about(h, 1) / 10.0;
                 mean += alive * dies * other.about(h, 8);
                 alive *= 1 - dies;
                 other.year();
@@ -299,12 +299,12 @@ public final class RandomRunsTest {
     private void holdWhose(int beast, int dying) {
         int[] owners = owners();
         owners[beast] = 0;
-        if (x.count(4) < 2 || anyGone(owners)) {
+        if (seen.count(4) < 2 || anyGone(owners)) {
             return;
         }
         int can = 0;
-        for (int h = 0; h < x.count(4); h++) {
-            if (x.about(h, 2) == 0) {
+        for (int h = 0; h < seen.count(4); h++) {
+            if (seen.about(h, 2) == 0) {
                 continue;
             }
             owners[beast] = h;
@@ -315,7 +315,7 @@ public final class RandomRunsTest {
             y.die(dying);
             boolean so = true;
             for (int b = 0; b < owners.length; b++) {
-                int told = x.beastOf(b, 4);
+                int told = seen.beastOf(b, 4);
                 int taken = y.beastOf(b, 1) == Make.NONE ? 1 : 0;
                 so &= told == Make.NONE || told == taken;
             }
@@ -360,17 +360,16 @@ public final class RandomRunsTest {
             start();
         }
         for (int i = 0; i < CALLS; i++) {
-            int[] c = new int[4];
-            c[0] = random.nextInt(NAMES.length);
-            for (int a = 1; a < c.length; a++) {
-                c[a] = random.nextInt(6) == 0 ? far[random.nextInt(far.length)] : random.nextInt(7) - 1;
+            String name = Calls.NAMES.get(random.nextInt(Calls.NAMES.size()));
+            int[] told = new int[Calls.parameters(name)];
+            for (int a = 0; a < told.length; a++) {
+                told[a] = random.nextInt(6) == 0 ? far[random.nextInt(far.length)] : random.nextInt(7) - 1;
             }
-            calls.add(c);
+            calls.add(new Call(name, told));
             long before = x.digest();
-            long got = made(x, c);
-            boolean refused = c[0] != op("digest") && got <= Make.UNKNOWN && got >= Make.FULL;
-            if (refused || asking.contains(NAMES[c[0]])) {
-                due.is("digest() behind " + told(c), x.digest(), before);
+            long got = Calls.made(x, name, told);
+            if (Calls.isRefusal(name, got) || asking.contains(name)) {
+                due.is("digest() behind " + Calls.told(name, told), x.digest(), before);
             }
         }
         due.is("the same calls answer the same", again().digest(), x.digest());
