@@ -321,19 +321,20 @@ public final class RollEdgesTest {
     }
 
     private static void whereAGiftMayNotBeNoneIsMade() {
-        // one alone can give to himself alone; what is gone is drawn, too
-        BestBeast x = Make.withHolders("105;0", 0);
-        x.beast(0, 5);
-        long before = x.digest();
-        isDrawn(x, "one alone, one beast", 60, 180);
-        due.is("digest() behind manors()", x.digest(), before);
-        BestBeast y = Make.withHolders("105;0", 0, 0);
-        Make.beasts(y, 0, 5, 6);
-        y.die(1);
-        for (int seed = 0; seed < 20; seed++) {
-            due.is("nobody is taken of, where only a dead one could be given to", y.manors(60, seed, 0), 0);
+        BestBeast alone = Make.withHolders("105;0", 0);
+        alone.beast(0, 5);
+        isDrawn(alone, "one alone, who can give to himself alone", 60, 180);
+        BestBeast gone = Make.withHolders("331;0", 9, 9, 9);
+        gone.beast(0, 50);
+        gone.die(0);
+        BestBeast toTheDead = Make.withHolders("330;0", 0, 9);
+        toTheDead.beast(1, 20);
+        toTheDead.die(0);
+        for (int seed = 0; seed < 30; seed++) {
+            due.is("what is gone is given to nobody, SEED " + seed, gone.manors(60, seed, 0), 0);
+            due.is("he dies, SEED " + seed, toTheDead.manors(60, seed, 1), 0);
+            due.is("nothing is given to a dead one, SEED " + seed, toTheDead.manors(60, seed, 0), 20);
         }
-        isDrawn(y, "two beasts, a dead one", 60, 180);
     }
 
     /** Holder 0 gives his one beast in YEAR 0 (of the MANORS), and dies, if at all, in YEAR 1. */

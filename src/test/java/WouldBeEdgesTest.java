@@ -165,6 +165,8 @@ public final class WouldBeEdgesTest {
 
     private static void whatIsBelowLeastIsNotGiven() {
         isGiving(one("111;9", Make.HOLDER, 5, 8, 9, 10), "LEAST 9", 2, 0b110, 19, 2);
+        isGiving(one("111;9", Make.HOLDER, 5, 10, 8), "LEAST 9, the less one behind", 2, 0b01, 5, 1);
+        isGiving(one("111;9", Make.HOLDER, 5, 9, 10, 8), "LEAST 9, the least one behind", 2, 0b011, 19, 2);
         isGiving(one("111;9", Make.HOLDER, 5, 8, 8), "all below LEAST", 4, 0, 0, 1);
         isGiving(one("110;1", Make.HOLDER, 5, 1, 2), "LEAST 1", 1, 0b11, 0, 1);
         isGiving(one("110;2", Make.HOLDER, 5, 1, 2), "LEAST 2", 1, 0b10, 0, 1);
