@@ -112,7 +112,7 @@ public final class BestBeast {
             case 5: return manor.heldBits(holder);
             case 6: return manor.lordMay(manor.kind[holder]);
             case 7: return manor.churchMay(manor.kind[holder]);
-            case 8: return manor.alive[holder] ? manor.worthTaken(holder, manor.heldBits(holder)) : 0;
+            case 8: return manor.lossOf(holder);
             default: return OUTSIDE;
         }
     }
@@ -370,7 +370,7 @@ public final class BestBeast {
                 h = 31 * h + beastOf(n, what);
             }
         }
-        for (int place = 0; place < letters; place++) {
+        for (int place = 0; place < letters && place < page.length; place++) {
             h = 31 * h + page[place];
         }
         for (int what = 0; what <= LAST_COUNT; what++) {
@@ -595,8 +595,9 @@ public final class BestBeast {
             return best;
         }
 
-        int worthTaken(int holder, int held) {
-            return worthOf(takenFrom(holder, held));
+        /** The worth, all together, of what would be taken, if he died now; of one who does not live 0. */
+        int lossOf(int holder) {
+            return isAlive(holder) ? worthOf(takenFrom(holder, heldBits(holder))) : 0;
         }
 
         int worthOf(int bits) {
@@ -673,7 +674,7 @@ public final class BestBeast {
             int lost = 0;
             int stillAlive = 1;
             for (int later = 0; later < years; later++) {
-                int loss = worthTaken(holder, heldLater(holder, later, gift));
+                int loss = worthOf(takenFrom(holder, heldLater(holder, later, gift)));
                 lost = lost * TENTHS + stillAlive * death[holder] * loss;
                 stillAlive *= TENTHS - death[holder];
             }

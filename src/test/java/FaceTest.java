@@ -31,6 +31,7 @@ public final class FaceTest {
         insides();
         source();
         room();
+        noCallMakesObjects();
         due.end();
     }
 
@@ -134,6 +135,36 @@ public final class FaceTest {
             }
             long made = threads.getThreadAllocatedBytes(Thread.currentThread().getId()) - before;
             due.holds("a run (" + scene.name + ") makes " + made + " bytes", made < most);
+        }
+    }
+
+    /** The least of three calls, each on a new object: what the machine makes for itself it makes once. */
+    private static void noCallMakesObjects() {
+        ThreadMXBean threads = (ThreadMXBean) ManagementFactory.getThreadMXBean();
+        long self = Thread.currentThread().getId();
+        for (Scene scene : Scene.ALL) {
+            for (String name : Calls.NAMES) {
+                long least = Long.MAX_VALUE;
+                for (int often = 0; often < 3; often++) {
+                    BestBeast x = scene.made();
+                    int[] a = fit(name);
+                    long before = threads.getThreadAllocatedBytes(self);
+                    Calls.made(x, name, a);
+                    least = Math.min(least, threads.getThreadAllocatedBytes(self) - before);
+                }
+                due.is("bytes that " + Calls.told(name, fit(name)) + " makes (" + scene.name + ")", least, 0);
+            }
+        }
+    }
+
+    private static int[] fit(String name) {
+        switch (name) {
+            case "letter": return new int[] {49};
+            case "mean": return new int[] {0, 4, 0};
+            case "giving": return new int[] {0, 4};
+            case "manors": return new int[] {60, 5, 0};
+            case "beast": case "give": case "heir": return new int[] {0, 3};
+            default: return new int[Calls.parameters(name)];
         }
     }
 }
